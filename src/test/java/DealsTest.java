@@ -15,6 +15,8 @@ final class DealsTest {
         weightsAreHalved();
         thinkRefusals();
         fairPrices();
+        sixWorths();
+        fairPricesAtTheEnds();
         fairPricesOfOneSide();
         fairRefusals();
         c.end();
@@ -169,6 +171,12 @@ final class DealsTest {
         y.event(1, 30, 70);
         c.due("10: 1 is never halved to nothing", y.think(0, 0), 1);
         c.due("10: 99^6 halved four times", y.think(1, 0), 941480149401L / 16);
+        BothPrices z = Check.on("w50 20;w50 80;c2 94 0;c0 1 99;");
+        for (int i = 0; i < 6; i++) {
+            z.event(1, 30, 70);
+        }
+        c.due("10: 1 is 1", z.think(0, 0), 1);
+        c.due("10: 95^6 halved three times, cut", z.think(1, 0), 735091890625L / 8);
     }
 
     private static void thinkRefusals() {
@@ -209,6 +217,30 @@ final class DealsTest {
         BothPrices guessers = Check.on("w50 20;w50 80;c3 40 10;c0 30 99;c1 30 0;");
         c.due("12: guessers", guessers.fair(0), 62);
         c.due("12: guessers", guessers.fair(1), 38);
+    }
+
+    private static void sixWorths() {
+        BothPrices x = Check.on("w10 0;w10 10;w20 20;w20 30;w20 90;w20 99;c2 10 0;c0 90 99;");
+        c.due("8: the mean of six", x.anew(), 48);
+        // From 30 to 89: 900, 900, 1800, 1800, 2000 and 2000, 50.74 ..
+        c.due("12: the ask with six", x.fair(0), 51);
+        c.due("12: no bid with six", x.fair(1), -4);
+        x.event(1, 1, 29);
+        // 9, 9, 18, 20, 20, 20
+        c.due("10: the least weight of six", x.think(0, 1), 32);
+        c.due("10: the greatest weight of six", x.think(5, 0), 5);
+        c.due("10: the greatest weight of six", x.think(5, 1), 24);
+    }
+
+    private static void fairPricesAtTheEnds() {
+        BothPrices one = Check.on("w100 1;c1 50 1;");
+        c.due("12: a bid of 1", one.fair(1), 1);
+        BothPrices few = Check.on("w100 50;c0 1 99;c1 1 0;");
+        few.event(0, 1, 2);
+        few.event(1, 1, 2);
+        c.due("10: the one weight", few.think(0, 1), 1);
+        c.due("12: the ask by one in a hundred", few.fair(0), 50);
+        c.due("12: the bid by one in a hundred", few.fair(1), 50);
     }
 
     private static void fairPricesOfOneSide() {
