@@ -1170,6 +1170,8 @@ public final class BothPrices {
 
     /** Days by a way: one by a seed, all of them by their chances, and logs of them. */
     private static final class Days {
+        private static final int WITHOUT_SIGN = 0x7fffffff;
+
         private final Thought[] thoughts = new Thought[HOURS + 1];
         // Of each worth its chance times the hundredths of the events that led to an hour.
         private final long[][] odds = new long[HOURS + 1][WORTHS];
@@ -1211,7 +1213,7 @@ public final class BothPrices {
 
         private static int eventBy(Street street, Thought thought, int trueValue, int z, int bid,
                 int ask) {
-            int drawn = (z & Integer.MAX_VALUE) / 65536 % 100;
+            int drawn = (z & WITHOUT_SIGN) / 65536 % 100;
             int together = 0;
             for (int s = 0; s < street.sorts; s++) {
                 together += street.hundredths[s];
@@ -1304,22 +1306,28 @@ public final class BothPrices {
 
     /** Looks through the slates of prices 0, n, twice n, .. up to 100. */
     private static final class Steps {
+        // The least steps are of 10: 11 prices, and as many slates as there are pairs of them.
+        private static final int PLACES = 11;
         private static final int SLATES = 55;
 
-        long bestBid;
-        long bestAsk;
+        int bestBid;
+        int bestAsk;
         long bestMean;
         private int slates;
         private final int[] bidPlace = new int[SLATES];
         private final int[] askPlace = new int[SLATES];
         private final Thought first = new Thought();
         private final Thought second = new Thought();
+        private final long[] byAsk = new long[PLACES];
+        private final long[] byBid = new long[PLACES];
+        private int picked;
+        private long pickedMean;
         private final long[] hisGreatest = new long[SLATES];
         private final long[] othersGreatest = new long[SLATES];
 
         /** Lists the slates by their bids, then by their asks. */
         private void list(int n) {
-            int last = n > 0 ? TOP / n : 0;
+            int last = n > 0 ? Math.min(PLACES - 1, TOP / n) : 0;
             slates = 0;
             for (int b = 0; b < last; b++) {
                 for (int a = b + 1; a <= last && slates < SLATES; a++) {
@@ -1333,12 +1341,17 @@ public final class BothPrices {
         void findBest(Street street, int n, int hours) {
             list(n);
             first.begin(street);
+            if (hours == 1) {
+                pick(street, n, first, 0);
+                bestBid = bidPlace[picked] * n;
+                bestAsk = askPlace[picked] * n;
+                bestMean = pickedMean;
+                return;
+            }
             for (int s = 0; s < slates; s++) {
                 int bid = bidPlace[s] * n;
                 int ask = askPlace[s] * n;
-                long mean = hours == 1
-                    ? hourMean(street, first, bid, ask, 0)
-                    : twoHours(street, n, bid, ask);
+                long mean = twoHours(street, n, bid, ask);
                 if (s == 0 || mean > bestMean) {
                     bestBid = bid;
                     bestAsk = ask;
@@ -1347,39 +1360,54 @@ public final class BothPrices {
             }
         }
 
-        /** What a day brings whose last hour goes by a slate, with what was gained ahead of it. */
-        private static long hourMean(Street street, Thought thought, int bid, int ask, int gained) {
-            long mean = 0;
-            for (int event = NOBODY_DEALS; event <= HE_BUYS; event++) {
-                int held = thought.heldAfter(event);
-                int gain = gained + takings(event, bid, ask) - street.costOf(held);
-                for (int i = 0; i < street.worths; i++) {
-                    long odds = thought.weight[i] * thought.oddsOf(street, event, i, bid, ask);
-                    mean += odds * (gain + held * street.value[i]);
-                }
-            }
-            return mean;
-        }
-
+        /** What two hours bring that begin with a slate and go on with the best ones. */
         private long twoHours(Street street, int n, int bid, int ask) {
             long mean = 0;
             for (int event = NOBODY_DEALS; event <= HE_BUYS; event++) {
                 if (second.takeTimes(first, street, event, bid, ask)) {
-                    int gain = takings(event, bid, ask) - street.costOf(second.held);
-                    mean += greatestSecond(street, n, gain);
+                    int gained = takings(event, bid, ask) - street.costOf(second.held);
+                    pick(street, n, second, gained);
+                    mean += pickedMean;
                 }
             }
             return mean;
         }
 
-        private long greatestSecond(Street street, int n, int gained) {
-            long greatest = 0;
-            for (int s = 0; s < slates; s++) {
-                long mean =
-                    hourMean(street, second, bidPlace[s] * n, askPlace[s] * n, gained);
-                greatest = s == 0 || mean > greatest ? mean : greatest;
+        /**
+         * Picks the best slate for the last hour of a day. What comes of the ask and what comes
+         * of the bid do not touch each other, so each is reckoned once, not for each slate.
+         */
+        private void pick(Street street, int n, Thought thought, int gained) {
+            long still = 0;
+            int closing = gained - street.costOf(thought.held);
+            for (int i = 0; i < street.worths; i++) {
+                still += 100 * thought.weight[i] * (closing + thought.held * street.value[i]);
             }
-            return greatest;
+            for (int place = 0; place < PLACES; place++) {
+                int price = Math.min(TOP, place * n);
+                byAsk[place] = moreBy(HE_SELLS, street, thought, price);
+                byBid[place] = moreBy(HE_BUYS, street, thought, price);
+            }
+            for (int s = 0; s < slates; s++) {
+                long mean = still + byBid[bidPlace[s]] + byAsk[askPlace[s]];
+                if (s == 0 || mean > pickedMean) {
+                    picked = s;
+                    pickedMean = mean;
+                }
+            }
+        }
+
+        /** How much more deals at a price bring than nobody who deals. */
+        private static long moreBy(int event, Street street, Thought thought, int price) {
+            int held = thought.heldAfter(event);
+            int cash = takings(event, price, price)
+                - street.costOf(held) + street.costOf(thought.held);
+            long more = 0;
+            for (int i = 0; i < street.worths; i++) {
+                long odds = thought.weight[i] * thought.oddsOf(street, event, i, price, price);
+                more += odds * (cash + (held - thought.held) * street.value[i]);
+            }
+            return more;
         }
 
         /** The i-th pair of slates at rest, or (i -1) how many there are. */

@@ -171,6 +171,19 @@ final class DealsTest {
         y.event(1, 30, 70);
         c.due("10: 1 is never halved to nothing", y.think(0, 0), 1);
         c.due("10: 99^6 halved four times", y.think(1, 0), 941480149401L / 16);
+        BothPrices low = Check.on(BUSY);
+        for (int i = 0; i < 14; i++) {
+            low.event(2, 30, 70);
+        }
+        c.due("10: the first weight is the greatest", low.think(0, 0), 84777884106L);
+        c.due("10: the second one is halved with it", low.think(1, 0), 597871L);
+        BothPrices brim = Check.on("w50 20;w50 80;c0 1 99;c2 9 0;c3 90 5;");
+        for (int i = 0; i < 5; i++) {
+            brim.event(1, 0, 70);
+        }
+        brim.event(1, 0, 77);
+        c.due("10: 100000000000 is not halved", brim.think(1, 0), 100000000000L);
+        c.due("10: 100000000000 is not halved", brim.think(1, 1), 100000000001L);
         BothPrices z = Check.on("w50 20;w50 80;c2 94 0;c0 1 99;");
         for (int i = 0; i < 6; i++) {
             z.event(1, 30, 70);
