@@ -170,12 +170,9 @@ public final class BothPrices {
         if (!isPart(what)) {
             return NO_SUCH;
         }
-        Way way = wayOn(d);
+        Way way = readyWayOn(d);
         if (way == null) {
-            return whyNot(d);
-        }
-        if (!now.isReady()) {
-            return CANNOT_BE;
+            return whyNotReady(d);
         }
         int bid = way.bid(now, thought);
         return what == 0 ? bid : way.ask(now, thought, bid);
@@ -185,48 +182,36 @@ public final class BothPrices {
         if (!isWorth(worth) || what < 0 || what > 2) {
             return NO_SUCH - INT_LESS;
         }
-        Way way = wayOn(d);
+        Way way = readyWayOn(d);
         if (way == null) {
-            return whyNot(d) - INT_LESS;
-        }
-        if (!now.isReady()) {
-            return CANNOT_BE - INT_LESS;
+            return whyNotReady(d) - INT_LESS;
         }
         days.live(now, way, now.value[worth], z);
         return what == 0 ? days.gain : what == 1 ? days.heldAtClosing : days.deals;
     }
 
     public long mean(int d) {
-        Way way = wayOn(d);
+        Way way = readyWayOn(d);
         if (way == null) {
-            return whyNot(d) - LONG_LESS;
-        }
-        if (!now.isReady()) {
-            return CANNOT_BE - LONG_LESS;
+            return whyNotReady(d) - LONG_LESS;
         }
         days.weigh(now, way);
         return days.meanGain;
     }
 
     public long stuck(int d) {
-        Way way = wayOn(d);
+        Way way = readyWayOn(d);
         if (way == null) {
-            return whyNot(d) - LONG_LESS;
-        }
-        if (!now.isReady()) {
-            return CANNOT_BE - LONG_LESS;
+            return whyNotReady(d) - LONG_LESS;
         }
         days.weigh(now, way);
         return days.stuckOdds;
     }
 
     public long limit(int d) {
-        Way way = wayOn(d);
+        Way way = readyWayOn(d);
         if (way == null) {
-            return whyNot(d) - LONG_LESS;
-        }
-        if (!now.isReady()) {
-            return CANNOT_BE - LONG_LESS;
+            return whyNotReady(d) - LONG_LESS;
         }
         draft.copyFrom(now);
         draft.most = MOST;
@@ -462,6 +447,10 @@ public final class BothPrices {
         return isShelf(d) ? shelves[d].way : null;
     }
 
+    private Way readyWayOn(int d) {
+        return now.isReady() ? wayOn(d) : null;
+    }
+
     private Shelf rowOn(int d) {
         return isShelf(d) && shelves[d].isRow() ? shelves[d] : null;
     }
@@ -476,6 +465,11 @@ public final class BothPrices {
             return NO_SUCH;
         }
         return shelves[d].isEmpty() ? NOTHING_HELD : OTHER_KIND;
+    }
+
+    /** The refusal where a way is wanted, and a street that is ready. */
+    private int whyNotReady(int d) {
+        return wayOn(d) == null ? whyNot(d) : CANNOT_BE;
     }
 
     private int placeOfBest(Shelf kinds, int figure) {
