@@ -31,6 +31,8 @@ public final class BothPrices {
     private static final int SHELVES = 8;
     private static final int ELEMENTS = 100;
     private static final int WAY_KINDS = 6;
+    // What is asked in place of a pair's place.
+    private static final int HOW_MANY = -1;
 
     private final Street now;
     private final Street draft;
@@ -259,7 +261,7 @@ public final class BothPrices {
     }
 
     public int rest(int n, int i) {
-        if (n < 20 || n > 50) {
+        if (n < 20 || n > 50 || i < HOW_MANY) {
             return NO_SUCH;
         }
         if (!now.isReady()) {
@@ -1404,7 +1406,7 @@ public final class BothPrices {
             return more;
         }
 
-        /** The i-th pair of slates at rest, or (i -1) how many there are. */
+        /** The i-th pair of slates at rest, or how many there are. */
         int atRest(Street street, int n, int i) {
             list(n);
             for (int s = 0; s < slates; s++) {
@@ -1423,7 +1425,7 @@ public final class BothPrices {
                     }
                 }
             }
-            return i == -1 ? pairs : NONE;
+            return i == HOW_MANY ? pairs : NONE;
         }
 
         private int numberOf(int slate) {

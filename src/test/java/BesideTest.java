@@ -90,7 +90,17 @@ final class BesideTest {
         c.due("22: the last of all", none.rest(20, 224), 4545);
         c.due("22: none behind it", none.rest(20, 225), -4);
         c.due("22: none far behind it", none.rest(20, Integer.MAX_VALUE), -4);
-        c.due("22: none ahead of it", none.rest(20, -2), -4);
+        int[] noPlaces = {-2, -3, -25, -225, Integer.MIN_VALUE};
+        for (int i : noPlaces) {
+            c.due("22: no place, ready: " + i, none.rest(20, i), -1);
+            c.due("22: no place, not ready: " + i, x.rest(20, i), -1);
+            c.due("22: no place, none yet: " + i, new BothPrices().rest(24, i), -1);
+            c.due("22: no place, steps of 19: " + i, none.rest(19, i), -1);
+        }
+        BothPrices some = Check.on("w100 40;c0 50 99;");
+        c.due("22: a place far ahead", some.rest(50, -2), -1);
+        c.due("22: how many", some.rest(50, -1), 3);
+        c.due("22: a place behind the last", some.rest(50, 3), -4);
     }
 
     private static void streets() {

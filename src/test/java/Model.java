@@ -613,7 +613,7 @@ final class Model {
     }
 
     int rest(int n, int i) {
-        if (!in(n, 20, 50)) {
+        if (!in(n, 20, 50) || i < -1) {
             return -1;
         }
         if (!ready()) {
