@@ -15,17 +15,20 @@ final class Check {
         }
     }
 
-    /** element(d, i) is to throw: 1 IllegalArgumentException, 2 IllegalStateException. */
     void dueThrow(BothPrices x, int d, int i, int want) {
-        int thrown = 0;
+        due("element(" + d + ", " + i + ") throws", thrown(x, d, i), want);
+    }
+
+    /** What element(d, i) throws: 1 IllegalArgumentException, 2 IllegalStateException, or 0. */
+    static int thrown(BothPrices x, int d, int i) {
         try {
             x.element(d, i);
         } catch (IllegalArgumentException e) {
-            thrown = 1;
+            return 1;
         } catch (IllegalStateException e) {
-            thrown = 2;
+            return 2;
         }
-        due("element(" + d + ", " + i + ") throws", thrown, want);
+        return 0;
     }
 
     void end() {
