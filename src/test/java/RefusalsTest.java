@@ -31,6 +31,7 @@ final class RefusalsTest {
     public static void main(String[] args) {
         s.in("Answers of several refusals");
         noSuchThing();
+        noRoom();
         cannotBe();
         none();
         ofShelves();
@@ -194,6 +195,19 @@ final class RefusalsTest {
             refused(READY, "streets" + told, x -> x.streets(bid, ask, 1, 2), -1);
             refused(READY, "streets, the other" + told, x -> x.streets(1, 2, bid, ask), -1);
         }
+    }
+
+    /** No call tells it by itself: where there is no room for a statement, a fault is told. */
+    private static void noRoom() {
+        s.says("-2 no room");
+        String worths = "w1 1;w1 1;w1 1;w1 1;w1 1;w1 1;";
+        String sorts = "c1 1 1;c1 1 1;c1 1 1;c1 1 1;c1 1 1;c1 1 1;";
+        BothPrices x = Check.on(worths + sorts);
+        s.due("a seventh worth", Check.tell(x, "m1;w1 1;"), -2003);
+        s.due("a seventh sort", Check.tell(x, "m1;c1 1 1;"), -2003);
+        s.due("six worths", x.count(0), 6);
+        s.due("six sorts", x.count(1), 6);
+        s.due("most stays", x.count(4), 20);
     }
 
     private static void cannotBe() {

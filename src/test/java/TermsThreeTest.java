@@ -304,6 +304,10 @@ final class TermsThreeTest {
             }
             s.due("seeds that draw " + end, Math.min(Math.min(plus, minus), 3), 3);
         }
+        BothPrices none = Check.on("w100 50;h6;k9;");
+        none.keep(0, 1, 5, 30);
+        s.due("no sorts: no gain", none.day(0, 0, 0, 0), 0);
+        s.due("no sorts: no deals", none.day(0, 0, 0, 2), 0);
         // 0 becomes 12345; the least int becomes itself and 12345: both draw 0.
         s.due("seed 0", x.day(0, 0, 0, 1), -1);
         s.due("the least seed", x.day(0, 0, MIN, 1), -1);
