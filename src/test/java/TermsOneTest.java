@@ -766,10 +766,13 @@ final class TermsOneTest {
         for (int d = 0; d < 8; d++) {
             s.due("its own way", x.spread(d), 7 + 2 * d);
             s.due("a row", x.row(d, 2, 1), 0);
+            s.due("a way no more", x.spread(d), -12);
             x.put(d, 0, 100 + d);
         }
         for (int d = 0; d < 8; d++) {
             s.due("its own row", x.element(d, 0), 100 + d);
+            s.due("a way", x.keep(d, 1, 0, 0), 0);
+            s.due("a row no more", x.put(d, 0, 0), -12);
             s.due("nothing", x.keep(d, 0, 0, 0), 0);
             s.due("nothing", x.put(d, 0, 0), -11);
         }

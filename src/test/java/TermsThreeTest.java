@@ -457,8 +457,8 @@ final class TermsThreeTest {
         s.says("of several the least BID, then the least ASK; for the first HOUR");
         BothPrices x = Check.on("w100 50;c0 20 99;c0 20 70;c1 20 10;c1 20 30;");
         // Asks of 70 and 90 are alike, and bids of 10 and 30.
-        dueBest(x, 10, 1, 10, 70, 100 * (40 * 20 + 20 * 40));
         dueBest(x, 10, 2, 10, 70, 2 * 10000 * (40 * 20 + 20 * 40));
+        dueBest(x, 10, 1, 10, 70, 100 * (40 * 20 + 20 * 40));
         BothPrices none = Check.on("w100 50;");
         for (int n = 10; n <= 50; n++) {
             dueBest(none, n, 1 + n % 2, 0, n, 0);
@@ -552,6 +552,13 @@ final class TermsThreeTest {
         x.set(0, 0);
         s.due("a most of 0", x.limit(0), -77700000000000000L);
         s.due("most stays", x.count(4), 0);
+        x.set(2, 2);
+        x.set(1, 0);
+        s.due("of other hours and costs", x.limit(0), (2 - 2 * 99) * 1000000L);
+        x.image();
+        Check.tell(x, "h6;k9;");
+        x.restore();
+        s.due("of what was restored", x.limit(0), (2 - 2 * 99) * 1000000L);
     }
 
     private static void twoStreets() {
